@@ -713,20 +713,16 @@ public final class WallPartition {
         private int split = 5;
         private int balance = 1;
 
-        private static boolean isNumber(int wall) {
-            return wall >= 0 && wall < MAX_WALLS;
-        }
-
         boolean exists(int wall) {
-            return isNumber(wall) && present[wall];
+            return wall >= 0 && wall < MAX_WALLS && present[wall];
         }
 
         boolean isFixed(int wall) {
-            return exists(wall) && !movable[wall];
+            return wall >= 0 && wall < MAX_WALLS && present[wall] && !movable[wall];
         }
 
         boolean isMovable(int wall) {
-            return exists(wall) && movable[wall];
+            return wall >= 0 && wall < MAX_WALLS && present[wall] && movable[wall];
         }
 
         int lowestFree() {
@@ -759,23 +755,23 @@ public final class WallPartition {
         }
 
         int startX(int wall) {
-            return isNumber(wall) ? startX[wall] : 0;
+            return wall >= 0 && wall < MAX_WALLS ? startX[wall] : 0;
         }
 
         int startY(int wall) {
-            return isNumber(wall) ? startY[wall] : 0;
+            return wall >= 0 && wall < MAX_WALLS ? startY[wall] : 0;
         }
 
         int endX(int wall) {
-            return isNumber(wall) ? endX[wall] : 0;
+            return wall >= 0 && wall < MAX_WALLS ? endX[wall] : 0;
         }
 
         int endY(int wall) {
-            return isNumber(wall) ? endY[wall] : 0;
+            return wall >= 0 && wall < MAX_WALLS ? endY[wall] : 0;
         }
 
         int kindOf(int wall) {
-            return isNumber(wall) ? kinds[wall] : SOLID;
+            return wall >= 0 && wall < MAX_WALLS ? kinds[wall] : SOLID;
         }
 
         int splitWeight() {
@@ -790,17 +786,25 @@ public final class WallPartition {
             return 10 * split + balance;
         }
 
+        int wayX(int wall) {
+            return wall >= 0 && wall < MAX_WALLS ? endX[wall] - startX[wall] : 0;
+        }
+
+        int wayY(int wall) {
+            return wall >= 0 && wall < MAX_WALLS ? endY[wall] - startY[wall] : 0;
+        }
+
         int squaredLength(int wall) {
-            int wayX = endX(wall) - startX(wall);
-            int wayY = endY(wall) - startY(wall);
-            return wayX * wayX + wayY * wayY;
+            return wayX(wall) * wayX(wall) + wayY(wall) * wayY(wall);
         }
 
         /** Above 0 in front of the wall, below 0 behind it, 0 on its line. */
         int sideValue(int wall, int x, int y) {
-            int wayX = endX(wall) - startX(wall);
-            int wayY = endY(wall) - startY(wall);
-            return wayX * (y - startY(wall)) - wayY * (x - startX(wall));
+            if (wall < 0 || wall >= MAX_WALLS) {
+                return 0;
+            }
+            return (endX[wall] - startX[wall]) * (y - startY[wall])
+                    - (endY[wall] - startY[wall]) * (x - startX[wall]);
         }
 
         boolean isOpaqueFor(int wall, int x, int y) {
@@ -819,7 +823,7 @@ public final class WallPartition {
         }
 
         void put(int wall, int x1, int y1, int x2, int y2, int kind, int movability) {
-            if (!isNumber(wall)) {
+            if (wall < 0 || wall >= MAX_WALLS) {
                 return;
             }
             present[wall] = true;
@@ -832,7 +836,7 @@ public final class WallPartition {
         }
 
         void drop(int wall) {
-            if (isNumber(wall)) {
+            if (wall >= 0 && wall < MAX_WALLS) {
                 present[wall] = false;
             }
         }
@@ -844,7 +848,7 @@ public final class WallPartition {
         }
 
         void shift(int wall, int dx, int dy) {
-            if (!isNumber(wall)) {
+            if (wall < 0 || wall >= MAX_WALLS) {
                 return;
             }
             startX[wall] += dx;
@@ -854,7 +858,7 @@ public final class WallPartition {
         }
 
         void turn(int wall) {
-            if (!isNumber(wall)) {
+            if (wall < 0 || wall >= MAX_WALLS) {
                 return;
             }
             int x = startX[wall];
@@ -866,7 +870,7 @@ public final class WallPartition {
         }
 
         void changeKind(int wall, int kind) {
-            if (isNumber(wall)) {
+            if (wall >= 0 && wall < MAX_WALLS) {
                 kinds[wall] = kind;
             }
         }
@@ -1180,35 +1184,29 @@ public final class WallPartition {
             }
         }
 
-        /** Adds what lies on this side of a wall (or on its line) of the pieces from one to another. */
+        /** Adds what lies on this side of a wall, or on its line, of the pieces of a list. */
         void addSide(Pieces source, int from, int to, int splitter, int side) {
             for (int piece = from; piece < to; piece++) {
                 int place = source.placeOf(piece, splitter);
                 if (place == side) {
-                    add(source.wallOf(piece), source.bound(piece, 0), source.bound(piece, 1),
-                            source.bound(piece, 2), source.bound(piece, 3));
+                    addCopy(source, piece);
                 } else if (place == CROSSING && side != ON_LINE) {
                     addPart(source, piece, splitter, side);
                 }
             }
         }
 
-        /** How many of the pieces from one to another have this place to the line of a wall. */
-        int countAt(int from, int to, int splitter, int place) {
-            int found = 0;
-            for (int piece = from; piece < to; piece++) {
-                if (placeOf(piece, splitter) == place) {
-                    found++;
-                }
-            }
-            return found;
-        }
-
+        /** Whether a piece is on the line of a wall, in front of it, behind it, or crosses it. */
         int placeOf(int piece, int splitter) {
-            int first = valueOfStart(piece, splitter);
-            int last = valueOfEnd(piece, splitter);
-            int atStart = valueAt(bound(piece, 0), bound(piece, 1), first, last);
-            int atEnd = valueAt(bound(piece, 2), bound(piece, 3), first, last);
+            if (!has(piece)) {
+                return ON_LINE;
+            }
+            int wall = wallAt[piece];
+            int first = walls.sideValue(splitter, walls.startX(wall), walls.startY(wall));
+            int last = walls.sideValue(splitter, walls.endX(wall), walls.endY(wall));
+            // times its denominator, which leaves the sign of a side value as it is
+            int atStart = first * startBottom[piece] + (last - first) * startTop[piece];
+            int atEnd = first * endBottom[piece] + (last - first) * endTop[piece];
             if (atStart == 0 && atEnd == 0) {
                 return ON_LINE;
             }
@@ -1218,25 +1216,21 @@ public final class WallPartition {
             return atStart <= 0 && atEnd <= 0 ? BEHIND : CROSSING;
         }
 
-        private int valueOfStart(int piece, int splitter) {
-            int wall = wallOf(piece);
-            return walls.sideValue(splitter, walls.startX(wall), walls.startY(wall));
-        }
-
-        private int valueOfEnd(int piece, int splitter) {
-            int wall = wallOf(piece);
-            return walls.sideValue(splitter, walls.endX(wall), walls.endY(wall));
-        }
-
-        /** The side value at a position, times its denominator: only its sign matters. */
-        private static int valueAt(int top, int bottom, int first, int last) {
-            return first * bottom + (last - first) * top;
+        private void addCopy(Pieces source, int piece) {
+            if (source.has(piece)) {
+                add(source.wallAt[piece], source.startTop[piece], source.startBottom[piece],
+                        source.endTop[piece], source.endBottom[piece]);
+            }
         }
 
         /** Adds the part of a piece that crosses a line on one side of it. */
         private void addPart(Pieces source, int piece, int splitter, int side) {
-            int first = source.valueOfStart(piece, splitter);
-            int last = source.valueOfEnd(piece, splitter);
+            if (!source.has(piece)) {
+                return;
+            }
+            int wall = source.wallAt[piece];
+            int first = walls.sideValue(splitter, walls.startX(wall), walls.startY(wall));
+            int last = walls.sideValue(splitter, walls.endX(wall), walls.endY(wall));
             int divisor = (int) greatestDivisor(first, first - last);
             if (divisor == 0) {
                 return;
@@ -1246,11 +1240,9 @@ public final class WallPartition {
             int cutBottom = Math.abs(first - last) / divisor;
             boolean startIsInFront = first > 0;
             if (startIsInFront == (side == FRONT)) {
-                add(source.wallOf(piece), source.bound(piece, 0), source.bound(piece, 1),
-                        cutTop, cutBottom);
+                add(wall, source.startTop[piece], source.startBottom[piece], cutTop, cutBottom);
             } else {
-                add(source.wallOf(piece), cutTop, cutBottom,
-                        source.bound(piece, 2), source.bound(piece, 3));
+                add(wall, cutTop, cutBottom, source.endTop[piece], source.endBottom[piece]);
             }
         }
 
@@ -1390,10 +1382,19 @@ public final class WallPartition {
         }
 
         private int priceOf(int wall, int from, int to) {
-            int crossing = lists.countAt(from, to, wall, CROSSING);
-            int front = lists.countAt(from, to, wall, FRONT);
-            int behind = lists.countAt(from, to, wall, BEHIND);
-            return split * crossing + balance * Math.abs(front - behind);
+            int crossing = 0;
+            int imbalance = 0;
+            for (int piece = from; piece < to; piece++) {
+                int place = lists.placeOf(piece, wall);
+                if (place == CROSSING) {
+                    crossing++;
+                } else if (place == FRONT) {
+                    imbalance++;
+                } else if (place == BEHIND) {
+                    imbalance--;
+                }
+            }
+            return split * crossing + balance * Math.abs(imbalance);
         }
 
         boolean hasNode(int node) {
@@ -1585,9 +1586,13 @@ public final class WallPartition {
             int back = lists.size();
             lists.addSide(lists, from, to, wall, BEHIND);
             int end = lists.size();
-            int total = lists.countAt(from, to, wall, ON_LINE)
-                    + fewestOf(front, back, depth + 1) + fewestOf(back, end, depth + 1);
+            int total = fewestOf(front, back, depth + 1) + fewestOf(back, end, depth + 1);
             lists.shorten(front);
+            for (int piece = from; piece < to; piece++) {
+                if (lists.placeOf(piece, wall) == ON_LINE) {
+                    total++;
+                }
+            }
             return total;
         }
     }
@@ -1634,8 +1639,8 @@ public final class WallPartition {
             if (!walls.exists(wall)) {
                 return false;
             }
-            int wallX = walls.endX(wall) - walls.startX(wall);
-            int wallY = walls.endY(wall) - walls.startY(wall);
+            int wallX = walls.wayX(wall);
+            int wallY = walls.wayY(wall);
             int across = wayX * wallY - wayY * wallX;
             if (across == 0) {
                 return false;
@@ -1757,9 +1762,8 @@ public final class WallPartition {
 
         /** Where the foot of the point is on the wall, from 0 to the squared length. */
         private long along(int wall, int x, int y) {
-            int wayX = walls.endX(wall) - walls.startX(wall);
-            int wayY = walls.endY(wall) - walls.startY(wall);
-            return wayX * (x - walls.startX(wall)) + wayY * (y - walls.startY(wall));
+            return walls.wayX(wall) * (x - walls.startX(wall))
+                    + walls.wayY(wall) * (y - walls.startY(wall));
         }
 
         private static long squaredWay(int wayX, int wayY) {

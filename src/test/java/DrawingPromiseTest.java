@@ -20,6 +20,12 @@ public final class DrawingPromiseTest extends Promises {
         }
         is("31: corner", x.drawCount(63, 0), 2);
         is("31: corner", x.drawCount(0, 63), 4);
+        fresh();
+        x.addWall(10, 10, 11, 10, 2, 0);
+        is("31: one-way with side value 1", x.drawCount(40, 11), 1);
+        is("31: one-way with side value -1", x.drawCount(40, 9), 0);
+        x.setKind(0, 0);
+        is("31: solid with side value -1", x.drawCount(40, 9), 1);
     }
 
     private static void order(String what, int px, int py, int... pieces) {
@@ -50,6 +56,10 @@ public final class DrawingPromiseTest extends Promises {
         x.addWall(50, 20, 60, 20, 1, 1);
         order("32: one list, in its order", 25, 40, 0, 2);
         order("32: one list, from behind", 25, 10, 1, 2);
+        chain();
+        order("32: from the first to the last", 60, 5, 0, 1, 2, 3, 4, 5, 6, 7, 8, 9, 10, 11);
+        order("32: from the last to the first", 1, 5, 11, 10, 9, 8, 7, 6, 5, 4, 3, 2, 1, 0);
+        order("32: without the one in whose line it is", 7, 5, 0, 1, 11, 10, 9, 8, 7, 6, 5, 4, 3);
         int[][] bad = {{64, 0, 0}, {-1, 0, 0}, {0, 64, 0}, {0, -1, 0}, {0, 0, -1}, {0, 0, LOW}};
         for (int[] b : bad) {
             is("32: bad value", x.drawPiece(b[0], b[1], b[2]), -2);
@@ -71,6 +81,9 @@ public final class DrawingPromiseTest extends Promises {
         x.turnWall(1);
         is("33: one-way from the front", x.paintCount(30, 30, 1, 0), 4);
         is("33: nothing behind the eye", x.paintCount(30, 30, -1, 0), 0);
+        x.addWall(40, 0, 40, 63, 0, 1);
+        is("33: all 32 columns", x.paintCount(30, 30, 1, 0), 4 + 32);
+        x.removeWall(2);
         is("33: the same picture, longer direction", x.paintCount(30, 30, 8, 0), 4);
         is("33: on the line of the walls", x.paintCount(62, 0, 0, 1), 0);
         fresh();

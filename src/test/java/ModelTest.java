@@ -187,21 +187,6 @@ public final class ModelTest {
         }
     }
 
-    /** The square root that the language does not have, for every length that a wall can have. */
-    private static void lengths(Due due) {
-        for (int wide = 0; wide < 64; wide++) {
-            for (int high = 0; high < 64; high++) {
-                if (wide + high == 0) {
-                    continue;
-                }
-                WallPartition x = new WallPartition();
-                x.addWall(0, 0, wide, high, 0, 0);
-                due.is("length of (0, 0) to (" + wide + ", " + high + ")", x.pieceLength(0),
-                        Math.sqrt((double) (wide * wide + high * high)));
-            }
-        }
-    }
-
     private static void everyMethodIsDrawn(Due due) {
         String all = String.join("\n", CALLS_AND_ARGUMENTS) + "\n1 lookout";
         for (Method method : WallPartition.class.getDeclaredMethods()) {
@@ -216,7 +201,6 @@ public final class ModelTest {
         seed = args.length > 0 ? Long.parseLong(args[0]) : 20260101;
         int runs = args.length > 1 ? Integer.parseInt(args[1]) : 600;
         everyMethodIsDrawn(due);
-        lengths(due);
         for (int number = 0; number < runs; number++) {
             run(number, due);
         }

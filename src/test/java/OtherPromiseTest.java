@@ -28,8 +28,10 @@ public final class OtherPromiseTest extends Promises {
         walked("along the wall", new int[] {20, 20, 0, 5}, 20, 25);
         walked("straight at the wall", new int[] {18, 20, 3, 0}, 18, 20);
         walked("past its end", new int[] {18, 31, 4, 1}, 22, 32);
+        walked("up, not up and aside", new int[] {19, 20, 3, 3}, 19, 23);
         x.addWall(10, 30, 20, 30, 0, 1);
         walked("caught in the corner", new int[] {19, 29, 1, 1}, 19, 29);
+        walked("right, not right and up", new int[] {14, 29, 3, 1}, 17, 29);
         walked("x before y", new int[] {17, 29, 1, 1}, 18, 29);
         x.setKind(0, 2);
         walked("one-way from the front", new int[] {18, 20, 3, 3}, 18, 23);
@@ -178,6 +180,14 @@ public final class OtherPromiseTest extends Promises {
         is("46: no edit", x.undo(), 2);
     }
 
+    private static void best(String what, int due, int[][] walls) {
+        fresh();
+        for (int[] w : walls) {
+            x.addWall(w[0], w[1], w[2], w[3], 0, 0);
+        }
+        is(what, x.bestWeights(), due);
+    }
+
     private static void promise47() {
         fresh();
         is("47: no walls", x.bestWeights(), 0);
@@ -188,15 +198,27 @@ public final class OtherPromiseTest extends Promises {
         is("47: they stay", x.weights(), 99);
         is("47: no build", x.buildCount(), 0);
         fresh();
-        x.addWall(0, 0, 0, 9, 0, 0);
+        x.addWall(10, 0, 10, 9, 0, 0);
         is("47: one wall", x.bestWeights(), 0);
-        x.addWall(1, 0, 1, 9, 0, 0);
+        x.addWall(11, 0, 11, 9, 0, 0);
         is("47: two walls", x.bestWeights(), 0);
-        x.addWall(2, 0, 2, 9, 0, 0);
+        x.addWall(12, 0, 12, 9, 0, 0);
         is("47: of the same pieces the least depth", x.bestWeights(), 1);
-        x.addWall(3, 0, 3, 9, 0, 1);
-        x.addWall(0, 5, 9, 5, 0, 1);
-        is("47: movable walls are left out", x.bestWeights(), 1);
+        for (int i = 9; i > 5; i--) {
+            x.addWall(i, 0, i, 9, 0, 1);
+        }
+        is("47: movable walls, deeper in the balanced tree, are left out", x.bestWeights(), 1);
+        best("47: no split weight below 3 is as good", 31, new int[][] {{0, 12, 0, 48},
+            {18, 6, 36, 36}, {48, 18, 24, 18}, {30, 48, 24, 54}, {24, 6, 48, 6}, {6, 0, 54, 6},
+            {36, 42, 48, 36}, {12, 18, 36, 36}});
+        best("47: split weight 4 would be better", 11, new int[][] {{42, 36, 42, 0},
+            {54, 30, 24, 30}, {48, 54, 24, 12}, {42, 48, 6, 6}, {12, 6, 24, 6}, {24, 12, 54, 6}});
+        best("47: no balance weight below 3 is as good", 23, new int[][] {{54, 6, 6, 54},
+            {0, 6, 6, 24}, {54, 30, 24, 30}, {12, 36, 0, 42}, {0, 42, 36, 48}, {54, 30, 0, 54},
+            {42, 54, 0, 18}});
+        best("47: balance weight 4 would be better", 10, new int[][] {{42, 36, 0, 48},
+            {54, 6, 24, 48}, {12, 12, 54, 42}, {42, 24, 36, 30}, {54, 48, 24, 30}, {18, 24, 6, 36},
+            {36, 6, 6, 36}});
     }
 
     private static void promise48() {

@@ -66,6 +66,14 @@ abstract class Promises {
         x.addWall(10, 10, 20, 10, 0, 0);
     }
 
+    /** Twelve movable walls behind each other: each node has one wall and is behind the last. */
+    static void chain() {
+        fresh();
+        for (int i = 0; i < 12; i++) {
+            x.addWall(5 + i, 0, 5 + i, 9, 0, 1);
+        }
+    }
+
     static void badPictures(String what, IntBinaryOperator atPoint,
             IntBinaryOperator toDirection) {
         int[][] points = {{64, 0}, {-1, 0}, {0, 64}, {0, -1}, {LOW, 5}, {5, HIGH}};

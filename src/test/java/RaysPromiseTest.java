@@ -32,6 +32,15 @@ public final class RaysPromiseTest extends Promises {
         is("35: turned", x.blocker(30, 20, 10, 20), 0);
         x.setKind(0, 1);
         is("35: glass", x.blocker(30, 20, 10, 20), -8);
+        fresh();
+        x.addWall(11, 10, 11, 11, 0, 0);
+        is("35: the shortest way and wall", x.blocker(10, 10, 11, 10), 0);
+        is("35: the other way", x.blocker(12, 11, 11, 11), 0);
+        is("35: no further", x.blocker(11, 12, 10, 11), -8);
+        x.setKind(0, 2);
+        is("35: one-way with side value 1", x.blocker(10, 10, 11, 10), 0);
+        is("35: one-way with side value -1", x.blocker(12, 10, 11, 10), -8);
+        is("35: the wall to be drawn at side value 1", x.drawCount(10, 10), 1);
         int[][] bad = {{64, 0, 1, 1}, {0, 64, 1, 1}, {0, 0, 64, 1}, {0, 0, 1, 64}, {-1, 0, 1, 1},
             {0, -1, 1, 1}, {0, 0, -1, 1}, {0, 0, 1, -1}, {9, 9, 9, 9}, {LOW, 0, HIGH, 0}};
         for (int[] b : bad) {

@@ -108,6 +108,58 @@ public final class TreePromiseTest extends Promises {
         is("23: a piece that ends on the line is not cut", x.pieceCount(), 5);
     }
 
+    /** As many pieces as there can be: each wall crosses all others, which cuts one of the two. */
+    private static void promise23Most() {
+        fresh();
+        x.setWeights(0, 9);
+        for (int i = 0; i < 12; i++) {
+            x.addWall(i, 0, 63 - 5 * i, 63 - i, i % 3, 0);
+        }
+        is("23: 12 walls and 66 points of two walls", x.pieceCount(), 78);
+        is("23: the same without weights", x.piecesWith(0, 0), 78);
+        is("23: the last", x.pieceWall(77) >= 0 ? 1 : 0, 1);
+        is("23: no more", x.pieceWall(78), -6);
+        due.isTrue("23: the last node", x.pieceNode(77) == x.nodeCount() - 1);
+        double sum = 0;
+        double walls = 0;
+        for (int piece = 0; piece < 78; piece++) {
+            sum += x.pieceLength(piece);
+        }
+        for (int i = 0; i < 12; i++) {
+            walls += Math.sqrt((63 - 6 * i) * (63 - 6 * i) + (63 - i) * (63 - i));
+        }
+        due.isTrue("23: the pieces are the walls", sum - walls < 1e-9 && walls - sum < 1e-9);
+    }
+
+    /** A wall that ends on the line of another is on one side of it, whichever end it is. */
+    private static void promise23Touching() {
+        int[][] ends = {{30, 20, 30, 40}, {30, 40, 30, 20}, {30, 20, 30, 5}, {30, 5, 30, 20}};
+        for (int movable = 0; movable < 2; movable++) {
+            for (int i = 0; i < 4; i++) {
+                fresh();
+                x.addWall(10, 20, 50, 20, 0, 0);
+                x.addWall(ends[i][0], ends[i][1], ends[i][2], ends[i][3], 0, movable);
+                x.addWall(10, 50, 50, 50, 0, 1);
+                x.addWall(10, 60, 50, 60, 0, 1);
+                x.setWeights(9, 0);
+                is("23: touching is not crossing", x.pieceCount() - (i < 2 ? 2 : 0), 4);
+                node(0, 0, 0, 1, i < 2 ? -8 : 3);
+                piece(0, 0, 0, 0, 1, 1, 1);
+                is("23: in front or behind", x.pieceWall(i < 2 ? 1 : 3), 1);
+            }
+        }
+        int[][] near = {{30, 11, 30, 5}, {30, 5, 30, 11}, {30, 15, 30, 9}, {30, 9, 30, 15}};
+        int[] cuts = {1, 5, 5, 1};
+        for (int i = 0; i < 4; i++) {
+            fresh();
+            x.addWall(10, 10, 11, 10, 0, 0);
+            x.addWall(near[i][0], near[i][1], near[i][2], near[i][3], 0, 1);
+            boolean startIsInFront = i % 2 == 0;
+            piece(startIsInFront ? 1 : 2, 1, startIsInFront ? 1 : 2, 0, 1, cuts[i], 6);
+            piece(startIsInFront ? 2 : 1, 1, startIsInFront ? 2 : 1, cuts[i], 6, 1, 1);
+        }
+    }
+
     private static void promise24() {
         fresh();
         is("24: none", x.pieceWall(0), -6);
@@ -171,6 +223,29 @@ public final class TreePromiseTest extends Promises {
         piece(3, 2, 3, 0, 1, 9, 10);
     }
 
+    /** A wall that two others cut: its middle piece has a cut at both ends. */
+    private static void promise26Twice() {
+        for (int turned = 0; turned < 2; turned++) {
+            fresh();
+            x.addWall(20, 0, 20, 9, 0, 0);
+            x.addWall(33, 0, 33, 9, 0, 1);
+            x.addWall(10, 30, 40, 30, 0, 1);
+            if (turned == 0) {
+                piece(1, 2, 1, 0, 1, 1, 3);
+                piece(3, 2, 3, 1, 3, 23, 30);
+                piece(4, 2, 4, 23, 30, 1, 1);
+                x.turnWall(2);
+            }
+            piece(0, 0, 0, 0, 1, 1, 1);
+            if (turned == 0) {
+                piece(1, 2, 1, 2, 3, 1, 1);
+                piece(2, 1, 2, 0, 1, 1, 1);
+                piece(3, 2, 3, 7, 30, 2, 3);
+                piece(4, 2, 4, 0, 1, 7, 30);
+            }
+        }
+    }
+
     private static void promise27() {
         fresh();
         due.is("27: none", x.pieceLength(0), -6.0);
@@ -191,6 +266,20 @@ public final class TreePromiseTest extends Promises {
         due.is("27: whole", x.pieceLength(0), Math.sqrt(7938.0));
         due.is("27: first part", x.pieceLength(1), (3.0 / 13.0 - 0.0) * Math.sqrt(1189.0));
         due.is("27: second part", x.pieceLength(2), (1.0 - 3.0 / 13.0) * Math.sqrt(1189.0));
+    }
+
+    /** The language has no square root of its own: each length that a wall can have. */
+    private static void promise27Lengths() {
+        for (int wide = 0; wide < 64; wide++) {
+            for (int high = 0; high < 64; high++) {
+                if (wide + high > 0) {
+                    fresh();
+                    x.addWall(0, 0, wide, high, 0, 0);
+                    due.is("27: the length of " + wide + ", " + high, x.pieceLength(0),
+                            Math.sqrt((double) (wide * wide + high * high)));
+                }
+            }
+        }
     }
 
     private static void promise28() {
@@ -221,6 +310,11 @@ public final class TreePromiseTest extends Promises {
         is("28: a bad value is no build", x.buildCount(), 1);
         is("28: turned", x.locate(0, 0), 0);
         is("28: a build", x.buildCount(), 2);
+        chain();
+        for (int i = 0; i < 12; i++) {
+            is("28: in a chain of twelve", x.locate(5 + i, 5), i);
+        }
+        is("28: behind all", x.locate(17, 5), 12);
     }
 
     private static void promise29() {
@@ -233,6 +327,8 @@ public final class TreePromiseTest extends Promises {
         x.addWall(10, 40, 50, 40, 0, 1);
         due.is("29: four leaves", x.meanLeafDepth(), 9.0 / 4.0);
         is("29: a build", x.buildCount(), 1);
+        chain();
+        due.is("29: one leaf of each depth up to 11, two of depth 12", x.meanLeafDepth(), 90.0 / 13.0);
     }
 
     private static void promise30() {
@@ -315,6 +411,21 @@ public final class TreePromiseTest extends Promises {
         is("30: no walls", x.buildCount(), 14);
     }
 
+    /** Each of the four coordinates of a fixed wall matters alone. */
+    private static void promise30Coordinates() {
+        int[][] walls = {{10, 20, 50, 20}, {11, 20, 50, 20}, {10, 21, 50, 20}, {10, 20, 51, 20},
+            {10, 20, 50, 21}};
+        for (int i = 1; i < 5; i++) {
+            fresh();
+            for (int[] w : new int[][] {walls[0], walls[i]}) {
+                text("s" + w[0] + "," + w[1] + "," + w[2] + "," + w[3] + ";");
+                x.load();
+                x.nodeCount();
+            }
+            is("30: coordinate " + i, x.buildCount(), 2);
+        }
+    }
+
     /** Each method that needs the tree makes it, the others do not. */
     private static void promise30Methods() {
         for (int method = 0; method < 13; method++) {
@@ -364,13 +475,18 @@ public final class TreePromiseTest extends Promises {
         promise21();
         promise22();
         promise23();
+        promise23Most();
+        promise23Touching();
         promise24();
         promise25();
         promise26();
+        promise26Twice();
         promise27();
+        promise27Lengths();
         promise28();
         promise29();
         promise30();
+        promise30Coordinates();
         promise30Methods();
         due.close("TreePromiseTest");
     }
