@@ -247,6 +247,12 @@ public final class OtherPromiseTest extends Promises {
         x.addWall(1, 1, 9, 1, 0, 0);
         x.addWall(20, 1, 11, 1, 0, 0);
         is("48: two on a line", x.leastPieces(), 2);
+        x.removeWall(0);
+        is("48: one is left", x.leastPieces(), 1);
+        x.removeWall(1);
+        is("48: none is left", x.leastPieces(), 0);
+        is("49: none is left", x.bestRoot(), -8);
+        is("46: none is left", x.piecesWith(5, 1), 0);
     }
 
     private static void promise49() {
