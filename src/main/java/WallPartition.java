@@ -1317,19 +1317,23 @@ public final class WallPartition {
             }
             int wall = splittingWall(from, to);
             int node = makeNode(wall, from, to, depth);
+            makeBranches(node, from, to, depth);
+            return node;
+        }
+
+        private void makeBranches(int node, int from, int to, int depth) {
+            if (!hasNode(node)) {
+                return;
+            }
+            int wall = wallOfNodes[node];
             int front = lists.size();
             lists.addSide(lists, from, to, wall, FRONT);
             int back = lists.size();
             lists.addSide(lists, from, to, wall, BEHIND);
             int end = lists.size();
-            int frontSubtree = makeSubtree(front, back, depth + 1);
-            int backSubtree = makeSubtree(back, end, depth + 1);
+            fronts[node] = makeSubtree(front, back, depth + 1);
+            backs[node] = makeSubtree(back, end, depth + 1);
             lists.shorten(front);
-            if (hasNode(node)) {
-                fronts[node] = frontSubtree;
-                backs[node] = backSubtree;
-            }
-            return node;
         }
 
         private int makeLeaf(int depth) {
@@ -1511,10 +1515,17 @@ public final class WallPartition {
             if (!tree.hasNode(node) || depth >= MAX_WALLS) {
                 return;
             }
-            boolean frontIsNear = tree.isInFrontOrOnLine(node, eyeX, eyeY);
-            arrangeSubtree(frontIsNear ? tree.backOf(node) : tree.frontOf(node), depth + 1);
+            if (tree.isInFrontOrOnLine(node, eyeX, eyeY)) {
+                arrangeNode(tree.backOf(node), node, tree.frontOf(node), depth);
+            } else {
+                arrangeNode(tree.frontOf(node), node, tree.backOf(node), depth);
+            }
+        }
+
+        private void arrangeNode(int far, int node, int near, int depth) {
+            arrangeSubtree(far, depth + 1);
             addPiecesOf(node);
-            arrangeSubtree(frontIsNear ? tree.frontOf(node) : tree.backOf(node), depth + 1);
+            arrangeSubtree(near, depth + 1);
         }
 
         private void addPiecesOf(int node) {
