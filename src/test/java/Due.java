@@ -21,6 +21,10 @@ final class Due {
         }
     }
 
+    int asked() {
+        return right + wrong;
+    }
+
     void isTrue(String what, boolean holds) {
         is(what, holds ? 1L : 0L, 1L);
     }
