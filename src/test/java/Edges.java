@@ -215,18 +215,22 @@ abstract class Edges {
         }
     }
 
-    /** The point (X, Y) of a call has coordinates from 0 to 63. */
+    /** The point (X, Y) of a call has coordinates from 0 to 63, whether there are walls or not. */
     static void refusesBadPoints(String call) {
-        refuses(SOME, call.replace("X", "%").replace("Y", "9"), 0, 63, -2);
-        refuses(SOME, call.replace("X", "9").replace("Y", "%"), 0, 63, -2);
+        for (String before : new String[] {SOME, ""}) {
+            refuses(before, call.replace("X", "%").replace("Y", "9"), 0, 63, -2);
+            refuses(before, call.replace("X", "9").replace("Y", "%"), 0, 63, -2);
+        }
     }
 
-    /** The direction (DX, DY) of a call has parts from -8 to 8. */
+    /** The direction (DX, DY) of a call has parts from -8 to 8, whether there are walls or not. */
     static void refusesBadDirections(String call) {
-        refuses(SOME, call.replace("DX", "%").replace("DY", "1"), -8, 8, -2);
-        refuses(SOME, call.replace("DX", "1").replace("DY", "%"), -8, 8, -2);
-        refuses(SOME, call.replace("DX", "%").replace("DY", "0"), -8, 8, -2);
-        refuses(SOME, call.replace("DX", "0").replace("DY", "%"), -8, 8, -2);
+        for (String before : new String[] {SOME, ""}) {
+            for (String other : new String[] {"1", "0"}) {
+                refuses(before, call.replace("DX", "%").replace("DY", other), -8, 8, -2);
+                refuses(before, call.replace("DX", other).replace("DY", "%"), -8, 8, -2);
+            }
+        }
     }
 
     /** A direction with a part at the end of its range, or with a part 0, is one. */

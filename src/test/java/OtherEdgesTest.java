@@ -131,6 +131,16 @@ public final class OtherEdgesTest extends Edges {
                 "nearestWall(4, 3) = 0; nearestWall(4, 4) = 0");
     }
 
+    /** Products of these squared distances need more than 32 bits, and floats are not exact enough. */
+    static void promise44_greatFractionsAreComparedExactly() {
+        holds("addWall(0, 1, 63, 63, 0, 0); addWall(0, 0, 63, 62, 0, 0); nearestWall(62, 0) = 1");
+        holds("addWall(0, 0, 63, 62, 0, 0); addWall(0, 1, 63, 63, 0, 0); nearestWall(62, 0) = 0");
+        String near = "addWall(21, 6, 38, 44, 0, 0)";
+        String far = "addWall(4, 21, 44, 32, 0, 0)";
+        holds(far, clear(46, 11, 743044, 1721), near, "nearestWall(46, 11) = 1");
+        holds(near, clear(46, 11, 748225, 1733), far, "nearestWall(46, 11) = 0");
+    }
+
     static void promise44_theNearestPointMayBeAnEnd() {
         holds(LEVEL, "addWall(24, 10, 34, 10, 0, 0) = 1",
                 "nearestWall(21, 10) = 0; nearestWall(22, 10) = 0; nearestWall(23, 10) = 1",
@@ -170,6 +180,9 @@ public final class OtherEdgesTest extends Edges {
                     clear(11, 5, 25, 1), clear(19, 5, 25, 1), clear(20, 5, 25, 1), clear(21, 5, 26, 1),
                     clear(22, 5, 29, 1), clear(15, 10, 0, 1), clear(21, 10, 1, 1), clear(9, 10, 1, 1));
         }
+        // the foot is one step before the start, on it, one step behind it, and so on at the end
+        holds("addWall(10, 10, 13, 12, 0, 0)", clear(9, 11, 2, 1), clear(8, 13, 13, 1),
+                clear(11, 9, 25, 13), clear(12, 13, 25, 13), clear(11, 15, 13, 1), clear(14, 11, 2, 1));
         // the foot of (4, 3) is beyond the end (3, 3), that of (3, 3) is the end, (2, 3) is before it
         holds("addWall(0, 0, 3, 3, 0, 0)", clear(4, 3, 1, 1), clear(3, 3, 0, 1), clear(2, 3, 1, 2),
                 clear(2, 4, 2, 1), clear(1, 4, 9, 2), clear(2, 5, 5, 1));
@@ -179,11 +192,13 @@ public final class OtherEdgesTest extends Edges {
 
     static void promise46_splitIsFrom0To9() {
         refuses(SOME, "piecesWith(%, 1)", 0, 9, -2);
+        refuses("", "piecesWith(%, 1)", 0, 9, -2);
         holds(CUTTER, "piecesWith(0, 1) = 3; piecesWith(9, 1) = 2; piecesWith(9, 9) = 3; piecesWith(8, 9) = 3");
     }
 
     static void promise46_balanceIsFrom0To9() {
         refuses(SOME, "piecesWith(1, %)", 0, 9, -2);
+        refuses("", "piecesWith(1, %)", 0, 9, -2);
         holds(CUTTER, "piecesWith(1, 0) = 2; piecesWith(1, 9) = 3; piecesWith(9, 8) = 2; piecesWith(0, 0) = 3");
     }
 
@@ -210,12 +225,46 @@ public final class OtherEdgesTest extends Edges {
     static void promise47_theFewestPiecesComeFirst() {
         holds(CUTTER, "bestWeights() = 10");
         holds(CUTTER, "addWall(0, 25, 63, 25, 0, 1); bestWeights() = 10");
+        // the weights 0 and 1 would lead to a tree of less depth, but of more pieces
+        holds("addWall(0, 60, 50, 50, 0, 0); addWall(10, 10, 20, 40, 0, 0)",
+                "addWall(40, 50, 30, 50, 0, 0); addWall(30, 10, 10, 60, 0, 0); bestWeights() = 0");
+    }
+
+    private static void bestOf(int best, int... coordinates) {
+        StringBuilder walls = new StringBuilder();
+        for (int i = 0; i < coordinates.length; i += 4) {
+            walls.append("addWall(" + coordinates[i] + ", " + coordinates[i + 1] + ", "
+                    + coordinates[i + 2] + ", " + coordinates[i + 3] + ", 0, 0);");
+        }
+        holds(walls.toString(), "bestWeights() = " + best);
+    }
+
+    /** With weights up to 2 or up to 4, the best of these would be others. */
+    static void promise47_theWeightsAreFrom0To3() {
+        bestOf(31, 0, 12, 0, 48, 18, 6, 36, 36, 48, 18, 24, 18, 30, 48, 24, 54, 24, 6, 48, 6,
+                6, 0, 54, 6, 36, 42, 48, 36, 12, 18, 36, 36);
+        bestOf(11, 42, 36, 42, 0, 54, 30, 24, 30, 48, 54, 24, 12, 42, 48, 6, 6, 12, 6, 24, 6,
+                24, 12, 54, 6);
+        bestOf(23, 54, 6, 6, 54, 0, 6, 6, 24, 54, 30, 24, 30, 12, 36, 0, 42, 0, 42, 36, 48,
+                54, 30, 0, 54, 42, 54, 0, 18);
+        bestOf(10, 42, 36, 0, 48, 54, 6, 24, 48, 12, 12, 54, 42, 42, 24, 36, 30, 54, 48, 24, 30,
+                18, 24, 6, 36, 36, 6, 6, 36);
+    }
+
+    static void promise47_movableWallsAreLeftOut() {
+        holds(walls(3, 0), "bestWeights() = 1", each("addWall(0, 10, 0, 1%, 0, 1)", 1, 4),
+                "bestWeights() = 1");
+        holds("addWall(10, 0, 10, 9, 0, 0); addWall(11, 0, 11, 9, 0, 0); addWall(12, 0, 12, 9, 0, 0)",
+                "addWall(9, 0, 9, 9, 0, 1); addWall(8, 0, 8, 9, 0, 1); addWall(7, 0, 7, 9, 0, 1)",
+                "addWall(6, 0, 6, 9, 0, 1); bestWeights() = 1");
     }
 
     static void promise47_ofSeveralTheGreatestDepthIsLeast() {
         holds(walls(2, 0), "bestWeights() = 0");
         holds(walls(3, 0), "bestWeights() = 1; removeWall(1); bestWeights() = 0");
         holds(walls(12, 0), "bestWeights() = 1");
+        // with the weights 0 and 1 the mean depth would be less, but not the greatest
+        bestOf(0, 0, 10, 40, 10, 40, 40, 30, 60, 40, 40, 40, 0, 30, 20, 60, 40);
     }
 
     static void promise47_ofSeveralTheNumberIsLeast() {
@@ -250,6 +299,9 @@ public final class OtherEdgesTest extends Edges {
         String star = "addWall(0, 0, 60, 60, 0, 0); addWall(0, 10, 60, 50, 0, 0);"
                 + "addWall(0, 20, 60, 40, 0, 0); addWall(0, 30, 60, 30, 0, 0);";
         holds(star, "leastPieces() = 7; addWall(0, 40, 60, 20, 0, 0); leastPieces() = 9");
+        holds("addWall(0, 0, 63, 63, 0, 0); addWall(1, 0, 58, 62, 0, 0); addWall(2, 0, 53, 61, 0, 0)",
+                "addWall(3, 0, 48, 60, 0, 0); leastPieces() = 10; addWall(4, 0, 43, 59, 0, 0)",
+                "leastPieces() = 15; bestRoot() = 0");
     }
 
     static void promise48_theWeightsAndTheTreeStay() {

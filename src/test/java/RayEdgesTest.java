@@ -155,6 +155,18 @@ public final class RayEdgesTest extends Edges {
                 "columnWall(30, 32, 1, 0, 16) = 2; setKind(2, 1); columnWall(30, 32, 1, 0, 16) = 0");
     }
 
+    /** The distances 2389/16708 and 637/4455 are the same as floats. */
+    static void promise36_distancesAreComparedExactly() {
+        String near = "addWall(63, 54, 28, 7, 0, 0)";
+        String far = "addWall(36, 18, 48, 29, 0, 0)";
+        holds(far, "columnDistance(1, 39, 7, 1, 28, 0) = 637; columnDistance(1, 39, 7, 1, 28, 1) = 4455",
+                near, "columnWall(1, 39, 7, 1, 28) = 1");
+        holds(near, "columnDistance(1, 39, 7, 1, 28, 0) = 2389; columnDistance(1, 39, 7, 1, 28, 1) = 16708",
+                far, "columnWall(1, 39, 7, 1, 28) = 0");
+        holds(near, far, "setKind(1, 1); paneCount(1, 39, 7, 1, 28) = 0; setKind(1, 0); setKind(0, 1)",
+                "paneCount(1, 39, 7, 1, 28) = 1");
+    }
+
     static void promise36_bothEndsOfAWallAreHit() {
         for (String turned : new String[] {"", "turnWall(0);"}) {
             holds("addWall(62, 33, 62, 31, 0, 0);" + turned, "columnWall(30, 32, 1, 0, 14) = -8",

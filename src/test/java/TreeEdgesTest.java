@@ -17,7 +17,10 @@ public final class TreeEdgesTest extends Edges {
     private static final String[] NEED_THE_TREE = {"nodeCount() = 1", "nodeWall(0) = 0",
         "nodeWall(9) = -7", "nodeWall(-1) = -7", "nodeChild(0, 0) = -8", "nodeChild(9, 0) = -7",
         "nodeDepth(0) = 0", "nodeDepth(9) = -7", "pieceCount() = 1", "pieceWall(0) = 0",
-        "pieceWall(9) = -6", "pieceNode(0) = 0", "pieceNode(9) = -6", "pieceBound(0, 3) = 1",
+        "nodeChild(-1, 1) = -7", "nodeDepth(-1) = -7", "nodeDepth(HIGH) = -7",
+        "pieceWall(9) = -6", "pieceWall(-1) = -6", "pieceNode(0) = 0", "pieceNode(9) = -6",
+        "pieceNode(-1) = -6", "pieceBound(0, 3) = 1", "pieceBound(-1, 0) = -6",
+        "pieceLength(-1) = -6.0", "pieceLength(LOW) = -6.0", "nodeWall(HIGH) = -7",
         "pieceBound(9, 3) = -6", "pieceLength(0) = 40.0", "pieceLength(9) = -6.0",
         "locate(1, 1) = 1", "meanLeafDepth() = 1.0", "drawCount(1, 1) = 1", "drawCount(1, 20) = 0",
         "drawPiece(1, 1, 0) = 0", "drawPiece(1, 1, 1) = -8", "paintCount(1, 1, 1, 0) = 10",
@@ -54,11 +57,12 @@ public final class TreeEdgesTest extends Edges {
                 + "; nodeChild(" + node + ", 0) = " + front + "; nodeChild(" + node + ", 1) = " + back;
     }
 
-    /** Twelve walls, each of which crosses all others. */
-    private static String mostPieces() {
+    /** Twelve walls, each of which crosses all others; the last ones are movable. */
+    private static String mostPieces(int fixed) {
         StringBuilder calls = new StringBuilder("setWeights(0, 0);");
         for (int i = 0; i < 12; i++) {
-            calls.append("addWall(" + i + ", 0, " + (63 - 5 * i) + ", " + (63 - i) + ", 0, 0);");
+            calls.append("addWall(" + i + ", 0, " + (63 - 5 * i) + ", " + (63 - i) + ", 0, "
+                    + (i < fixed ? 0 : 1) + ");");
         }
         return calls.toString();
     }
@@ -138,6 +142,14 @@ public final class TreeEdgesTest extends Edges {
         holds(walls, "setWeights(3, 9); nodeWall(0) = 0; setWeights(4, 9); nodeWall(0) = 2");
         holds(walls, "setWeights(2, 6); nodeWall(0) = 0; setWeights(2, 5); nodeWall(0) = 2");
         holds(walls, "setWeights(1, 3); nodeWall(0) = 0; setWeights(1, 2); nodeWall(0) = 2");
+    }
+
+    /** If whole walls were counted for the price, there would be 6 pieces. */
+    static void promise20_onlyThePiecesOfTheListCountForThePrice() {
+        holds("addWall(50, 40, 30, 30, 0, 0); addWall(40, 20, 10, 0, 0, 0)",
+                "addWall(50, 60, 40, 30, 0, 0); addWall(50, 40, 60, 0, 0, 0); pieceCount() = 5");
+        holds("addWall(20, 60, 30, 20, 0, 0); addWall(10, 10, 30, 40, 0, 0)",
+                "addWall(60, 40, 40, 40, 0, 0); addWall(40, 30, 10, 0, 0, 0); pieceCount() = 5");
     }
 
     static void promise20_movableWallsDoNotCountForThePrice() {
@@ -241,9 +253,12 @@ public final class TreeEdgesTest extends Edges {
     }
 
     static void promise23_isAtMost78() {
-        holds(mostPieces(), "pieceCount() = 78; pieceWall(77) = 11; pieceWall(78) = -6",
-                "pieceNode(78) = -6; pieceBound(78, 0) = -6; pieceLength(78) = -6.0",
-                "piecesWith(0, 0) = 78; drawCount(0, 63) = 78; drawPiece(0, 63, 78) = -8");
+        for (int fixed = 0; fixed <= 12; fixed++) {
+            holds(mostPieces(fixed), "pieceCount() = 78; pieceWall(77) = 11; pieceWall(78) = -6",
+                    "pieceNode(78) = -6; pieceBound(78, 0) = -6; pieceLength(78) = -6.0",
+                    "drawCount(0, 63) = 78; drawPiece(0, 63, 78) = -8; piecesWith(0, 0) = "
+                    + fixed * (fixed + 1) / 2);
+        }
     }
 
     // ---- 24 to 27: pieces

@@ -33,6 +33,12 @@ public final class WallEdgesTest extends Edges {
         other.run("faultKind() = -8; clearText() = 0; nodeCount() = 0");
     }
 
+    static void promise1_answers512Calls() {
+        holds(each("setWeights(%, 1)", 0, 9).repeat(50), "undo() = 7; undo() = 6; undo() = 5",
+                "undo() = 4; undo() = 3; undo() = 2; undo() = 1; undo() = 0; weights() = 11",
+                "addWall(1, 2, 3, 4, 0, 0) = 0; pieceCount() = 1; buildCount() = 1");
+    }
+
     // ---- 2: addWall
 
     static void promise2_x1IsFrom0To63() {
