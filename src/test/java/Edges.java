@@ -1,6 +1,5 @@
 import java.lang.reflect.InvocationTargetException;
 import java.lang.reflect.Method;
-import java.lang.reflect.Modifier;
 import java.util.ArrayList;
 import java.util.Arrays;
 import java.util.Comparator;
@@ -9,9 +8,9 @@ import java.util.List;
 import java.util.Map;
 
 /**
- * What the tests of the boundary cases share. Each sentence of the document that names a boundary
+ * What the tests of single sentences share. Each sentence of the document that names a boundary
  * case has a test of its own: a static method without arguments, named after the promise, as in
- * promise2_x1IsFrom0To63.
+ * promise2_x1IsFrom0To63, or after the part of the description, as in tree_theListsKeepTheOrder.
  *
  * Calls are written as in the examples of the document, with semicolons between them:
  * "addWall(0, 0, 9, 0, 2, 0) = 0; turnWall(0) = 2". An answer that is not told is not compared.
@@ -254,25 +253,42 @@ abstract class Edges {
         }
     }
 
+    static void is(String what, double got, double want) {
+        DUE.is(test + ": " + what, got, want);
+    }
+
+    static void isTrue(String what, boolean holds) {
+        DUE.isTrue(test + ": " + what, holds);
+    }
+
     /** Runs the tests of a class; each of these promises must have one. */
     static void runAll(Class<?> tests, int from, int to) throws Exception {
-        boolean[] tested = new boolean[50];
+        String[] promises = new String[to - from + 1];
+        for (int i = 0; i < promises.length; i++) {
+            promises[i] = "promise" + (from + i);
+        }
+        runAll(tests, promises);
+    }
+
+    /** Runs the tests of a class, named <group>_<sentence>; each of these groups must have one. */
+    static void runAll(Class<?> tests, String... groups) throws Exception {
+        List<String> missing = new ArrayList<>(Arrays.asList(groups));
         Method[] methods = tests.getDeclaredMethods();
         Arrays.sort(methods, Comparator.comparing(Method::getName));
         for (Method method : methods) {
             test = method.getName();
-            if (!test.startsWith("promise") || !Modifier.isStatic(method.getModifiers())) {
+            if (method.isSynthetic() || test.indexOf('_') < 0) {
                 continue;
             }
+            String group = test.substring(0, test.indexOf('_'));
+            DUE.isTrue(test + " is of " + tests, Arrays.asList(groups).contains(group));
             int before = DUE.asked();
             method.setAccessible(true);
             method.invoke(null);
             DUE.isTrue(test + " asks something", DUE.asked() > before);
-            tested[Integer.parseInt(test.substring("promise".length(), test.indexOf('_')))] = true;
+            missing.remove(group);
         }
-        for (int promise = from; promise <= to; promise++) {
-            DUE.isTrue("promise " + promise + " has a test", tested[promise]);
-        }
+        DUE.isTrue("there are tests of " + missing, missing.isEmpty());
         DUE.close(tests.getName());
     }
 }

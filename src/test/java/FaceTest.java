@@ -31,6 +31,68 @@ public final class FaceTest {
         "int piecesWith 2", "int bestWeights 0", "int leastPieces 0", "int bestRoot 0"
     };
 
+    /** The lines of the public face, with the names of the parameters. */
+    private static final String[] LINES = {
+        "public static final int NO_SUCH_WALL = -1;",
+        "public static final int BAD_VALUE = -2;",
+        "public static final int NO_ROOM = -3;",
+        "public static final int ZERO_LENGTH = -4;",
+        "public static final int NOT_POSSIBLE = -5;",
+        "public static final int NO_SUCH_PIECE = -6;",
+        "public static final int NO_SUCH_NODE = -7;",
+        "public static final int NONE = -8;",
+        "public static final int TEXT_FAULT = -9;",
+        "public WallPartition() {",
+        "public int addWall(int x1, int y1, int x2, int y2, int kind, int movable) {",
+        "public int removeWall(int wall) {",
+        "public int moveWall(int wall, int dx, int dy) {",
+        "public int turnWall(int wall) {",
+        "public int setKind(int wall, int kind) {",
+        "public int setWeights(int split, int balance) {",
+        "public int undo() {",
+        "public int wallCount() {",
+        "public int coordinate(int wall, int which) {",
+        "public int kind(int wall) {",
+        "public int weights() {",
+        "public int appendText(int code) {",
+        "public int clearText() {",
+        "public int load() {",
+        "public int faultPlace() {",
+        "public int faultKind() {",
+        "public int faultItem() {",
+        "public int nodeCount() {",
+        "public int nodeWall(int node) {",
+        "public int nodeChild(int node, int side) {",
+        "public int nodeDepth(int node) {",
+        "public int pieceCount() {",
+        "public int pieceWall(int piece) {",
+        "public int pieceNode(int piece) {",
+        "public int pieceBound(int piece, int which) {",
+        "public double pieceLength(int piece) {",
+        "public int locate(int x, int y) {",
+        "public double meanLeafDepth() {",
+        "public int buildCount() {",
+        "public int drawCount(int x, int y) {",
+        "public int drawPiece(int x, int y, int index) {",
+        "public int paintCount(int x, int y, int dx, int dy) {",
+        "public int paintedPiece(int x, int y, int dx, int dy, int column) {",
+        "public int blocker(int x1, int y1, int x2, int y2) {",
+        "public int columnWall(int x, int y, int dx, int dy, int column) {",
+        "public int columnDistance(int x, int y, int dx, int dy, int column, int part) {",
+        "public int paneCount(int x, int y, int dx, int dy, int column) {",
+        "public int seenColumns(int x, int y, int dx, int dy, int wall) {",
+        "public int seenPoints(int x, int y) {",
+        "public int lookout(int which) {",
+        "public int walk(int x, int y, int dx, int dy) {",
+        "public int wander(int x, int y, int state, int steps) {",
+        "public int nearestWall(int x, int y) {",
+        "public long clearance(int x, int y, int part) {",
+        "public int piecesWith(int split, int balance) {",
+        "public int bestWeights() {",
+        "public int leastPieces() {",
+        "public int bestRoot() {"
+    };
+
     private static final Due due = new Due();
 
     private static void methods() {
@@ -94,6 +156,16 @@ public final class FaceTest {
         due.is("it implements nothing", WallPartition.class.getInterfaces().length, 0);
     }
 
+    private static void lines() throws Exception {
+        List<String> found = Files.readAllLines(Path.of("src/main/java/WallPartition.java"));
+        for (String line : LINES) {
+            due.isTrue("the program has the line: " + line, found.contains("    " + line));
+        }
+        due.isTrue("the class has its line", found.contains("public final class WallPartition {"));
+        long all = found.stream().filter(line -> line.startsWith("    public ")).count();
+        due.is("lines of the public face", all, LINES.length);
+    }
+
     /** Words of Java that LANGUAGE.md leaves out, or that this class has no use for. */
     private static void words() throws Exception {
         String source = Files.readString(Path.of("src/main/java/WallPartition.java"))
@@ -130,6 +202,7 @@ public final class FaceTest {
         typeAndConstructor();
         constants();
         methods();
+        lines();
         words();
         newsAreInConstructors();
         due.close("FaceTest");
